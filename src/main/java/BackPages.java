@@ -13,13 +13,9 @@ public final class BackPages {
     /** In the place of a sub: all marks of the head together. */
     private static final int ALL = -2;
 
-    private final byte[] text = new byte[MOST_BYTES];
-    private int textLength = 0;
-    private int faultPlace = NONE;
+    private final Reader reader = new Reader();
     private Book now = new Book();
-    private Book draft = new Book();
     private final Book[] images = {new Book(), new Book()};
-    private final Reader reader = new Reader(text, draft);
     private int ordering = 0;
     private int widest = 30;
     private final Press press = new Press();
@@ -43,36 +39,29 @@ public final class BackPages {
         if (n < 1 || n > 8) {
             return OUTSIDE;
         }
-        if (textLength + n > MOST_BYTES) {
+        if (reader.length + n > MOST_BYTES) {
             return FULL;
         }
-        for (int i = n - 1; i >= 0; i--) {
-            text[textLength] = (byte) (bytes >>> (8 * i));
-            textLength++;
-        }
-        return textLength;
+        return reader.takeBytes(n, bytes);
     }
 
     public int read() {
-        reader.begin(draft, textLength);
-        textLength = 0;
+        reader.begin();
         // each clause takes one byte at least
         for (int i = 0; i < MOST_BYTES && reader.hasMore(); i++) {
             reader.readClause();
         }
-        faultPlace = reader.faultPlace;
+        reader.length = 0;
         if (reader.faulty != 0) {
             return -10 - reader.faulty;
         }
-        Book old = now;
-        now = draft;
-        draft = old;
+        now = reader.changeBook(now);
         printedNow = false;
         return now.heads;
     }
 
     public int fault() {
-        return faultPlace;
+        return reader.faultPlace;
     }
 
     public int count(int what) {
@@ -82,7 +71,7 @@ public final class BackPages {
             case 1:
                 return now.marks;
             case 2:
-                return textLength;
+                return reader.length;
             case 3:
                 return pairs.size;
             case 4:
@@ -1027,25 +1016,34 @@ public final class BackPages {
     private static final class Reader {
         static final int MARK = 0, SEE = 1, ALSO = 2, ASKED = 3;
 
+        int length = 0;
         int faulty = 0;
         int faultPlace = NONE;
-        private final byte[] text;
-        private int end = 0;
+        private final byte[] text = new byte[MOST_BYTES];
         private int place = 0;
-        private Book book;
+        private Book book = new Book();
         private int sees = 0;
         private int alsos = 0;
         private int askedTold = 0;
 
-        Reader(byte[] bytes, Book target) {
-            text = bytes;
-            book = target;
+        /** How many bytes there are then; what has no room is not taken. */
+        int takeBytes(int n, long bytes) {
+            for (int i = n - 1; i >= 0 && length < text.length; i--) {
+                text[length] = (byte) (bytes >>> 8 * i);
+                length++;
+            }
+            return length;
         }
 
-        void begin(Book target, int length) {
-            book = target;
+        /** The book that was read; the reader writes the next one over the other. */
+        Book changeBook(Book other) {
+            Book ready = book;
+            book = other;
+            return ready;
+        }
+
+        void begin() {
             book.clear();
-            end = Math.min(length, text.length);
             place = 0;
             faulty = 0;
             faultPlace = NONE;
@@ -1056,7 +1054,7 @@ public final class BackPages {
 
         boolean hasMore() {
             skipBlanks();
-            return place < end && faulty == 0;
+            return place < length && faulty == 0;
         }
 
         /** Always NONE, for those that would have answered a number. */
@@ -1069,11 +1067,11 @@ public final class BackPages {
         }
 
         int byteHere() {
-            return place < end ? text[place] : 0;
+            return place < length ? text[place] : 0;
         }
 
         void skipBlanks() {
-            while (place < end && text[place] == ' ') {
+            while (place < length && text[place] == ' ') {
                 place++;
             }
         }
@@ -1087,13 +1085,13 @@ public final class BackPages {
         }
 
         void skipWord() {
-            while (place < end && isLetter(text[place])) {
+            while (place < length && isLetter(text[place])) {
                 place++;
             }
         }
 
         void skipNumber() {
-            while (place < end && isFigure(text[place])) {
+            while (place < length && isFigure(text[place])) {
                 place++;
             }
         }
@@ -1126,7 +1124,7 @@ public final class BackPages {
                 readLink(kind);
             }
             if (faulty == 0) {
-                readSign(';');
+                readEnd();
             }
         }
 
@@ -1156,9 +1154,9 @@ public final class BackPages {
             }
         }
 
-        void readSign(int sign) {
+        void readEnd() {
             skipBlanks();
-            if (byteHere() == sign && place < end) {
+            if (byteHere() == ';') {
                 place++;
             } else {
                 fail(1, place);

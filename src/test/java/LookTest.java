@@ -62,6 +62,8 @@ public final class LookTest {
         check.due("head 4", x.finds(4, 10), UNKNOWN);
         x.add(3, NONE, 1, 99, false);
         check.due("all pages", x.finds(3, 0), 99);
+        x.drop(0);
+        check.due("after a drop", x.finds(0, 0), 3);
     }
 
     private static void blindAndRound() {

@@ -34,6 +34,10 @@ public final class PagesTest {
         check.due("at 0 all change", x.putIn(0, 2), 3);
         check.due("marks then", Check.marks(x), "0:7-7 0:7-20 0:5-17");
         check.due("without marks", new BackPages().putIn(0, 9), 0);
+        BackPages first = Check.of("mark a 95;mark a 1;");
+        check.due("the first mark is the last page", first.putIn(0, 5), NOT);
+        check.due("it is as it was", Check.marks(first), "0:95-95 0:1-1");
+        check.due("just 99", first.putIn(0, 4), 2);
     }
 
     private static void takeOut() {
@@ -127,6 +131,8 @@ public final class PagesTest {
         tell(1, 1, "11", 0, 5);
         tell(2, 1, "10", 0, 5);
         tell(2, 2, "1111", 0, 0, 5, 5);
+        // 11001 comes ahead of it, but leaves two out
+        tell(1, 3, "10111", 2, 0, 2, 1, 0);
         tell(3, 2, "1100", 0, 0, 5, 5);
         tell(20, 4, "0111000", 1, 0, 0, 0, 5, 5, 7);
         tell(2, 4, "0111110", 1, 0, 0, 0, 5, 5, 7);
@@ -208,6 +214,9 @@ public final class PagesTest {
         check.due("its steps", x.look(4, 1), 2);
         check.due("printed", Check.printed(x),
                 "mill, *7\n  a, 9\n  dam, 3\n  race, 2, 5-6\n  wheel, 1\n  see also mills, x\nmills, see mill\nz, see mills\n");
+        BackPages turned = Check.of("mark b 1;mark a 2;");
+        check.due("the first mark is b's", turned.join(1, 0), 2);
+        check.due("its marks", Check.marks(turned), "1:1-1 1:2-2");
         x.asked(1, 10);
         check.due("join again", x.join(0, 1), 6);
         check.due("99 at most", x.head(0, 4), 99);

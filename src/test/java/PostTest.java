@@ -74,6 +74,7 @@ public final class PostTest {
         posting(x, 11, 20, 14, 11);
         x.asked(2, 0);
         posting(x, 11, 16, 4, 8);
+        posting(Check.of("see a b;mark b 1;asked a 3;"), 2, 1, 3, 2);
     }
 
     private static void likePostings() {

@@ -92,6 +92,11 @@ public final class PrintTest {
         x.add(0, NONE, 31, 31, false);
         check.due("31 do not", Check.printed(x), "abcdefghijkl, 10-12, 20-22,\n    30-31, 40\n");
         check.due("its lines", x.head(0, 6), 2);
+        BackPages byOne = Check.of("mark abcdefghijk 10-12;mark abcdefghijk 20-22;mark abcdefghijk 30-32;");
+        byOne.width(31);
+        check.due("32 in 31", Check.printed(byOne), "abcdefghijk, 10-12, 20-22,\n    30-32\n");
+        byOne.width(32);
+        check.due("32 in 32", Check.printed(byOne), "abcdefghijk, 10-12, 20-22, 30-32\n");
         x.width(20);
         check.due("narrow", Check.printed(x), "abcdefghijkl, 10-12,\n    20-22, 30-31, 40\n");
         BackPages sees = Check.of("see abcdefghijkl bcdefghijklm;also x abcdefghijkl;also x bcdefghijklm;");

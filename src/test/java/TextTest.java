@@ -113,6 +113,8 @@ public final class TextTest {
         faulty("  ;", 1, 2);
         faulty("5", 1, 0);
         faulty("marks a 1;", 1, 0);
+        faulty("park a 1;", 1, 0);
+        faulty("marc a 1;", 1, 0);
         faulty("mark a 1; _ b 1;", 1, 10);
         faulty("mark", 1, 4);
         faulty("mark   ", 1, 7);
@@ -222,6 +224,7 @@ public final class TextTest {
         faulty("see a b;see a b;", 6, 12);
         faulty("asked a 0;asked a 5;", 6, 16);
         faulty("asked a 5;asked  a;", 6, 17);
+        faulty("asked a 5;asked b 5;asked a 6;", 6, 26);
         faulty("see a a;", 6, 6);
         faulty("also abc  abc;", 6, 10);
         faulty("also a b;also a  b;", 6, 17);
