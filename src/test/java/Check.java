@@ -5,12 +5,20 @@ import java.util.List;
 final class Check {
     private int asked = 0;
     private int wrong = 0;
+    private int sentences = 0;
+    private String words = "";
+
+    /** The document's words that the answers from here on hold. */
+    void sentence(String words) {
+        this.words = "[" + words + "] ";
+        sentences++;
+    }
 
     void due(String call, long got, long want) {
         asked++;
         if (got != want) {
             wrong++;
-            System.out.println(call + " answered " + got + ", due is " + want);
+            System.out.println(words + call + " answered " + got + ", due is " + want);
         }
     }
 
@@ -18,12 +26,12 @@ final class Check {
         asked++;
         if (!got.equals(want)) {
             wrong++;
-            System.out.println(call + " answered\n" + got + "\ndue is\n" + want);
+            System.out.println(words + call + " answered\n" + got + "\ndue is\n" + want);
         }
     }
 
     void end() {
-        System.out.println(asked + " answers, " + wrong + " wrong");
+        System.out.println((sentences > 0 ? sentences + " sentences, " : "") + asked + " answers, " + wrong + " wrong");
         if (wrong != 0) {
             System.exit(1);
         }
@@ -53,25 +61,27 @@ final class Check {
         return x;
     }
 
+    /** One call a byte: an object is good for 512 of them. */
     static String printed(BackPages x) {
         StringBuilder out = new StringBuilder();
-        for (int i = 0; x.print(i) != BackPages.NONE; i++) {
-            out.append((char) x.print(i));
+        for (int b = x.print(0); b >= 0; b = x.print(out.length())) {
+            out.append((char) b);
         }
         return out.toString();
     }
 
     static String name(BackPages x, int h, int sub) {
         StringBuilder out = new StringBuilder();
-        for (int i = 0; x.name(h, sub, i) != BackPages.NONE; i++) {
-            out.append((char) x.name(h, sub, i));
+        for (int b = x.name(h, sub, 0); b >= 0; b = x.name(h, sub, out.length())) {
+            out.append((char) b);
         }
         return out.toString();
     }
 
     static String runs(BackPages x, int h, int sub) {
         List<String> out = new ArrayList<>();
-        for (int i = 0; i < x.run(h, sub, BackPages.NONE, 0); i++) {
+        int size = x.run(h, sub, BackPages.NONE, 0);
+        for (int i = 0; i < size; i++) {
             out.add((x.run(h, sub, i, 2) == 1 ? "*" : "") + x.run(h, sub, i, 0) + "-" + x.run(h, sub, i, 1));
         }
         return String.join(" ", out);
@@ -79,8 +89,10 @@ final class Check {
 
     static String marks(BackPages x) {
         List<String> out = new ArrayList<>();
-        for (int k = 0; k < x.count(1); k++) {
-            String place = x.mark(k, 1) == BackPages.NONE ? "" : "/" + x.mark(k, 1);
+        int size = x.count(1);
+        for (int k = 0; k < size; k++) {
+            int sub = x.mark(k, 1);
+            String place = sub == BackPages.NONE ? "" : "/" + sub;
             String main = x.mark(k, 4) == 1 ? "*" : "";
             out.add(x.mark(k, 0) + place + ":" + main + x.mark(k, 2) + "-" + x.mark(k, 3));
         }
