@@ -8,10 +8,16 @@ final class Check {
     private int sentences = 0;
     private String words = "";
 
-    /** The document's words that the answers from here on hold. */
+    /** The document's words, just as they stand there, that the answers from here on hold. */
     void sentence(String words) {
         this.words = "[" + words + "] ";
         sentences++;
+    }
+
+    /** Words that hold more than one thing: which of them. */
+    void sentence(String words, String which) {
+        sentence(words);
+        this.words = "[" + words + ": " + which + "] ";
     }
 
     void due(String call, long got, long want) {

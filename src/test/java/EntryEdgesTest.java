@@ -134,7 +134,7 @@ public final class EntryEdgesTest {
     }
 
     private static void headsUnknown() {
-        check.sentence("UNKNOWN, OUTSIDE (head)");
+        check.sentence("6 LINES of it PRINTED. UNKNOWN, OUTSIDE.");
         BackPages x = sixteen();
         for (int h : new int[] {-1, -2, 16, 17, LEAST, MOST}) {
             check.due("head " + h, x.head(h, 0), UNKNOWN);
@@ -167,6 +167,12 @@ public final class EntryEdgesTest {
         check.due("behind it", x.name(0, 0, 12), NONE);
         check.due("a sub's one", x.name(1, 0, NONE), 1);
         check.due("behind that", x.name(1, 0, 1), NONE);
+        BackPages last = Check.of("mark zyxwvutsrqpo/nopqrstuvwxy 1;");
+        check.due("twelve of the last letters", last.name(0, NONE, NONE), 12);
+        check.due("all of them", Check.name(last, 0, NONE), "zyxwvutsrqpo");
+        check.due("a sub's twelve of them", last.name(0, 0, NONE), 12);
+        check.due("all of the sub's", Check.name(last, 0, 0), "nopqrstuvwxy");
+        check.due("behind them", last.name(0, NONE, 12) + last.name(0, 0, 12), 2 * NONE);
         for (int i : new int[] {-2, -3, LEAST, MOST, 64, 60, 24}) {
             check.due("byte " + i, x.name(1, NONE, i), NONE);
             check.due("byte " + i + " of a sub", x.name(0, 0, i), NONE);
@@ -174,7 +180,7 @@ public final class EntryEdgesTest {
     }
 
     private static void namesUnknown() {
-        check.sentence("UNKNOWN (name)");
+        check.sentence("NONE: not so many. UNKNOWN.", "name");
         BackPages x = sixteen();
         check.due("the sixth sub", x.name(15, 5, 0), 'z');
         check.due("sub 6", x.name(15, 6, 0), UNKNOWN);
@@ -205,7 +211,7 @@ public final class EntryEdgesTest {
     }
 
     private static void marksUnknown() {
-        check.sentence("UNKNOWN, OUTSIDE (mark)");
+        check.sentence("4 MAIN (1, 0). UNKNOWN, OUTSIDE.");
         BackPages x = Check.of("mark a1;".repeat(60));
         check.due("the last", x.mark(59, 0), 0);
         for (int k : new int[] {-1, -2, 60, 61, LEAST, MOST}) {
@@ -258,7 +264,7 @@ public final class EntryEdgesTest {
     }
 
     private static void addFull() {
-        check.sentence("FULL (add: 60 MARKS)");
+        check.sentence("OUTSIDE (PAGES; q below p), FULL.");
         BackPages x = Check.of("mark a1;".repeat(59) + "mark b/s 2;");
         check.due("the 61st", x.add(0, NONE, 5, 5, false), FULL);
         check.due("of a sub", x.add(1, 0, 5, 5, true), FULL);
@@ -291,7 +297,7 @@ public final class EntryEdgesTest {
     }
 
     private static void dropUnknown() {
-        check.sentence("UNKNOWN (drop)");
+        check.sentence("how many are left. UNKNOWN.");
         BackPages x = Check.of("mark a1;".repeat(60));
         for (int k : new int[] {-1, 60, LEAST, MOST}) {
             check.due("mark " + k, x.drop(k), UNKNOWN);
@@ -342,7 +348,7 @@ public final class EntryEdgesTest {
     }
 
     private static void runsOfNone() {
-        check.sentence("i = NONE: how many; NONE: not so many (an ENTRY without MARKS)");
+        check.sentence("i = NONE: how many; NONE: not so many", "an entry without marks");
         BackPages x = Check.of("see a b;mark b/s 5;");
         check.due("of a head that has nothing", x.run(0, NONE, NONE, 0), 0);
         check.due("its run 0", x.run(0, NONE, 0, 0), NONE);
@@ -373,7 +379,7 @@ public final class EntryEdgesTest {
     }
 
     private static void mostRuns() {
-        check.sentence("Run i of an ENTRY (as many as 99 PAGES can have)");
+        check.sentence("Run i of an ENTRY", "as many as 99 pages can have");
         BackPages x = Check.of("asked a 1;");
         for (int p = 99; p >= 1; p -= 2) {
             x.add(0, NONE, p, p, p == 99);

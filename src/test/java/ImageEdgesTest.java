@@ -244,7 +244,7 @@ public final class ImageEdgesTest {
     // ---- images
 
     private static void twoImages() {
-        check.sentence("IMAGE i becomes what is so: 1");
+        check.sentence("IMAGE i becomes what is so: 1. UNKNOWN.");
         BackPages x = Check.of("mark a 1;");
         check.due("keep 0", x.keep(0), 1);
         x.add(0, NONE, 3, 3, false);
@@ -295,6 +295,21 @@ public final class ImageEdgesTest {
         check.due("sixty marks", full.count(1), 60);
         check.due("the last", full.mark(59, 0) + " " + full.mark(59, 1) + " " + full.mark(59, 2) + " " + full.mark(59, 4), "11 0 59 0");
         check.due("sixteen heads", Check.name(full, 15, NONE), "p");
+        String six = "mark p/a 1;mark p/b 2;mark p/c 3;mark p/d 4;mark p/e 5;mark p/f 6;";
+        BackPages last = Check.of(text.substring(0, text.length() - 10) + six);
+        String told = View.told(last);
+        last.keep(0);
+        Check.feed(last, text.toString().replace("/s", "/x"));
+        last.read();
+        last.keep(1);
+        last.goBack(0);
+        check.due("all subs of the last head", View.told(last), told);
+        last.goBack(1);
+        check.due("the other", Check.name(last, 15, 0) + last.head(15, 0), "x1");
+        Check.feed(last, "see a b;also a b;asked a 9;mark a 5;");
+        last.read();
+        last.goBack(0);
+        check.due("all again", View.told(last), told);
     }
 
     private static void imagesKeepNot() {
@@ -320,7 +335,7 @@ public final class ImageEdgesTest {
     }
 
     private static void imagesStay() {
-        check.sentence("What is so becomes IMAGE i: 1 (the IMAGE stays)");
+        check.sentence("What is so becomes IMAGE i: 1", "the image stays");
         BackPages x = much();
         x.keep(0);
         String told = View.told(x);
@@ -340,7 +355,7 @@ public final class ImageEdgesTest {
     }
 
     private static void imagesOfNone() {
-        check.sentence("IMAGE i becomes what is so (no HEADS)");
+        check.sentence("IMAGE i becomes what is so: 1", "no heads");
         BackPages x = new BackPages();
         check.due("keep", x.keep(1), 1);
         Check.feed(x, "mark a/s 1;");

@@ -120,12 +120,23 @@ public final class LookEdgesTest {
     }
 
     private static void mostSteps() {
-        check.sentence("each a step, from it (as many as 16 HEADS can have)");
+        check.sentence("the fewest of SEE and ALSO, each a step", "as many as 16 heads can have");
         BackPages x = chain();
         for (int h = 0; h < 16; h++) {
             check.due("from " + h, x.steps(h, 1), 15 - h);
         }
         check.due("no such page", x.steps(0, 2), NONE);
+        x.drop(15);
+        check.due("fifteen marks left", x.steps(0, 1), 15);
+        for (int k = 14; k >= 0; k--) {
+            x.drop(k);
+        }
+        check.due("no mark left", x.steps(0, 1), NONE);
+        BackPages full = Check.of("mark a1;".repeat(59) + "mark b 99;");
+        check.due("the last of sixty", full.steps(1, 99), 0);
+        check.due("none of sixty", full.steps(1, 98), NONE);
+        full.drop(59);
+        check.due("the last is gone", full.steps(1, 99), NONE);
     }
 
     // ---- trouble
@@ -235,6 +246,15 @@ public final class LookEdgesTest {
         check.due("65 is 64, and 64 is gone", pages.trouble(6, 0), 0);
         pages.add(1, NONE, 64, 64, true);
         check.due("two of 64", pages.trouble(6, 0), 6);
+        StringBuilder text = new StringBuilder();
+        for (int h = 0; h < 16; h++) {
+            text.append("mark ").append((char) ('a' + h)).append(' ').append(60 + h).append(';');
+        }
+        BackPages sixteen = Check.of(text.toString());
+        check.due("16 unlike ones", sixteen.trouble(6, 0), 0);
+        sixteen.add(15, NONE, 60, 60, false);
+        sixteen.add(0, NONE, 75, 75, false);
+        check.due("the first and the last", sixteen.trouble(6, 0), 1 + 32768);
         check.due("none filled", Check.of("asked a 1;asked b 1;").trouble(6, 0), 0);
         check.due("one alone", Check.of("mark a 1;").trouble(6, 0), 0);
     }
@@ -311,6 +331,14 @@ public final class LookEdgesTest {
         for (int k = 0; k <= 3; k++) {
             check.due("k " + k, x.finds(0, k), due[k]);
         }
+        x.drop(0);
+        check.due("without 1", x.finds(0, 0), 4);
+        x.drop(1);
+        check.due("3 alone", x.finds(0, 0), 1);
+        x.drop(0);
+        check.due("none left", x.finds(0, 0), 0);
+        check.due("high ones of three", Check.of("mark a 97;see a b;mark b 98;also a c;mark c 99;").finds(0, 1), 3);
+        check.due("low ones of three", Check.of("mark a 1;see a b;mark b 2;also a c;mark c 3;").finds(0, 1), 3);
         check.due("none", Check.of("asked a 1;").finds(0, 9), 0);
         check.due("all", Check.of("mark a 1-99;").finds(0, 0), 99);
         check.due("all of two", Check.of("mark a 1-64;see a b;mark b 64-99;").finds(0, 1), 99);
@@ -322,7 +350,7 @@ public final class LookEdgesTest {
     }
 
     private static void troubleBounds() {
-        check.sentence("TROUBLE: the SET. OUTSIDE");
+        check.sentence("0 .. 20 it must be in any case). OUTSIDE.");
         BackPages x = Check.of("mark a 1;");
         for (int what : new int[] {-1, 7, 8, LEAST, MOST}) {
             check.due("what " + what, x.trouble(what, 0), OUTSIDE);

@@ -90,7 +90,7 @@ public final class PageEdgesTest {
     }
 
     private static void putInMany() {
-        check.sentence("how many MARKS changed (all 60)");
+        check.sentence("how many MARKS changed", "all 60");
         BackPages x = Check.of("mark a1;".repeat(59) + "mark b2;");
         check.due("the last alone", x.putIn(1, 1), 1);
         check.due("all", x.putIn(0, 9), 60);
@@ -101,7 +101,7 @@ public final class PageEdgesTest {
     // ---- taken out
 
     private static void takeOut() {
-        check.sentence("TAKEN OUT: PAGES p to q: what MARKS have of these is gone (a MARK with none left, too), PAGES above q are q less p and 1 less");
+        check.sentence("PAGES above q are q less p and 1 less", "and what is between");
         int[][] marks = {{9, 9, 9, 9}, {10, 10, 0, 0}, {12, 12, 0, 0}, {13, 13, 10, 10}, {9, 10, 9, 9}, {9, 12, 9, 9}, {9, 13, 9, 10},
             {10, 12, 0, 0}, {10, 13, 10, 10}, {12, 13, 10, 10}, {11, 11, 0, 0}, {1, 99, 1, 96}, {99, 99, 96, 96}, {1, 9, 1, 9}, {13, 99, 10, 96},
             {10, 11, 0, 0}, {11, 12, 0, 0}, {8, 11, 8, 9}, {11, 15, 10, 12}};
@@ -123,7 +123,7 @@ public final class PageEdgesTest {
     }
 
     private static void takeOutNumbers() {
-        check.sentence("(a MARK with none left, too; later ones have one number less)");
+        check.sentence("TAKEN OUT: PAGES p to q: what MARKS have of these is gone (a MARK with none left, too; later ones have one number less)");
         BackPages x = Check.of("mark a 5;mark b 1;mark c 5;mark c 6;mark d/s 9 main;mark e 5;");
         check.due("three gone", x.takeOut(5, 5), 3);
         check.due("marks", Check.marks(x), "1:1-1 2:5-5 3/0:*8-8");
@@ -209,6 +209,17 @@ public final class PageEdgesTest {
             x.read();
             check.due("now '" + texts[i] + "'", x.stale(0), due[i]);
         }
+        StringBuilder text = new StringBuilder("mark p/a 1;mark p/b 2;mark p/c 3;mark p/d 4;mark p/e 5;mark p/f 6;");
+        for (int h = 0; h < 15; h++) {
+            text.append("mark ").append((char) ('a' + h)).append(' ').append(h + 7).append(';');
+        }
+        BackPages full = Check.of(text.toString());
+        full.keep(0);
+        check.due("16 heads", full.stale(0), 0);
+        full.join(15, 0);
+        check.due("p's are o's", full.stale(0), 6);
+        full.read();
+        check.due("no heads", full.stale(0), 21);
         BackPages none = new BackPages();
         none.keep(0);
         check.due("an image of none", none.stale(0), 0);
@@ -239,7 +250,7 @@ public final class PageEdgesTest {
     // ---- pairs
 
     private static void pairsLater() {
-        check.sentence("PAGE u (later than that of the one before) is told. NOT: u is not later than that of the one before");
+        check.sentence("OUTSIDE, NOT: u is not later than that of the one before; FULL.", "NOT");
         BackPages x = new BackPages();
         check.due("the first", x.saw(5, 9), 1);
         check.due("the same", x.saw(5, 10), NOT);
@@ -254,7 +265,7 @@ public final class PageEdgesTest {
     }
 
     private static void pairsBounds() {
-        check.sentence("v (1 .. 199) was it. OUTSIDE");
+        check.sentence("PAGE u (later than that of the one before) is told, v (1 .. 199) was it");
         BackPages x = new BackPages();
         for (int u : new int[] {0, 100, -1, LEAST, MOST}) {
             check.due("u " + u, x.saw(u, 5), OUTSIDE);
@@ -273,7 +284,7 @@ public final class PageEdgesTest {
     }
 
     private static void pairsFull() {
-        check.sentence("PAIRS (20 at most) are looked up. FULL");
+        check.sentence("A PAIR: how many there are. OUTSIDE, NOT: u is not later than that of the one before; FULL.", "20 at most");
         BackPages x = new BackPages();
         for (int i = 1; i <= 20; i++) {
             check.due("pair " + i, x.saw(i, i), i);
@@ -359,7 +370,7 @@ public final class PageEdgesTest {
     }
 
     private static void shifts() {
-        check.sentence("if v less u is other (below 0, too)");
+        check.sentence("if v less u is other", "below 0, too");
         int[][] pairs = {{1, 199, 99, 1}, {1, 1, 99, 99}, {1, 101, 99, 199}, {50, 1, 99, 50}, {50, 49, 51, 52}, {50, 60, 51, 60}, {50, 60, 51, 61}};
         int[] due = {1, 0, 0, 0, 1, 1, 0};
         for (int i = 0; i < pairs.length; i++) {
@@ -372,7 +383,7 @@ public final class PageEdgesTest {
     }
 
     private static void twentyPairs() {
-        check.sentence("PAIRS (20 at most): what all comes to at the least");
+        check.sentence("what all comes to at the least", "of 20 pairs");
         int[] unlike = {1, 2, 3, 4, 5, 6, 7, 8, 9, 10, 11, 12, 13, 14, 15, 16, 17, 18, 19, 20};
         tell(0, 0, "1".repeat(20), unlike);
         tell(1, 19, "1".repeat(20), unlike);
@@ -386,6 +397,19 @@ public final class PageEdgesTest {
         int[] last = {1, 2, 2, 2, 2, 2, 2, 2, 2, 2, 2, 2, 2, 2, 2, 2, 2, 2, 2, 3};
         tell(20, 2, "0" + "1".repeat(18) + "0", last);
         tell(1, 2, "1".repeat(20), last);
+        // what more pairs came to is not in the way
+        BackPages x = new BackPages();
+        for (int size : new int[] {20, 3, 7, 2, 1, 5}) {
+            x.forget();
+            for (int i = 1; i <= size; i++) {
+                x.saw(i, 2 * i);
+            }
+            check.due(size + " unlike ones", x.story(20, NONE), size - 1);
+            check.due("the first of " + size, x.story(20, 0), 1);
+            check.due("the last of " + size, x.story(20, size - 1), size == 1 ? 1 : 0);
+            check.due(size + " by 1", x.story(1, NONE), size - 1);
+            check.due("the last of " + size + " by 1", x.story(1, size - 1), 1);
+        }
     }
 
     private static void storyBounds() {

@@ -73,14 +73,14 @@ public final class PostEdgesTest {
     }
 
     private static void postedWithoutSee() {
-        check.sentence("and no SEE (its ALSO it has)");
+        check.sentence("of the HEAD that is FOUND from it, and no SEE", "its also it has");
         BackPages x = Check.of("mark a/s 1;see b a;also b c;");
         check.due("'b, see a', '  see also c'", x.head(1, 6), 2);
         check.due("'b', '  s, 1', '  see also c'", x.posted(2), x.count(4) + 1);
     }
 
     private static void postedBreaksLines() {
-        check.sentence("LINES of the whole with a SET of HEADS POSTED (lines of the posted HEAD's own length)");
+        check.sentence("LINES of the whole with a SET of HEADS POSTED", "lines as long as with the posted head");
         // "a, 10, 12, 14, 16" has 17 bytes; "abcde, 10, 12, 14, 16" 21, "abcd, .." 20
         BackPages x = Check.of("mark a 10;mark a 12;mark a 14;mark a 16;see abcde a;see abcd a;");
         x.width(20);
@@ -242,7 +242,7 @@ public final class PostEdgesTest {
     }
 
     private static void fitsJust() {
-        check.sentence("so that LINES together are n or fewer: the least LOSS");
+        check.sentence("whether as it is (0), FOLDED (1), LEFT OUT (2), so that LINES together are n or fewer: the least LOSS");
         // lines: a 3 (folded 1, loss 2), b 2 (folded 1, loss 1), c 1
         BackPages x = Check.of("mark a/s 1;mark a/t 3;mark b/s 1;mark c 1;");
         fit(x, 7, 0, "000");
@@ -282,7 +282,7 @@ public final class PostEdgesTest {
     // ---- promises 22 to 24
 
     private static void setsOfHeads() {
-        check.sentence("UNKNOWN (bits of such)");
+        check.sentence("UNKNOWN (a HEAD, SUB, MARK, PAIR, IMAGE that there is not; bits of such)");
         BackPages x = Check.of(heads(16, "asked", " 1;"));
         x.add(0, NONE, 1, 1, false);
         for (int h = 1; h < 16; h++) {
@@ -332,7 +332,7 @@ public final class PostEdgesTest {
     }
 
     private static void fitBounds() {
-        check.sentence("THE FIT into n LINES (0 .. 200): h = NONE its LOSS, else what is done with a HEAD. UNKNOWN, OUTSIDE");
+        check.sentence("THE FIT into n LINES: h = NONE its LOSS, else what is done with a HEAD (0 .. 2; 0 of one that is not PRINTED). UNKNOWN, OUTSIDE.");
         BackPages x = Check.of("mark a 1;mark b 1;");
         fit(x, 200, 0, "00");
         fit(x, 0, 40, "22");
@@ -359,7 +359,7 @@ public final class PostEdgesTest {
     }
 
     private static void mostLoss() {
-        check.sentence("the least LOSS (of 16 HEADS, each ASKED for 99 times)");
+        check.sentence("the least LOSS", "of 16 heads, each asked for 99 times");
         BackPages x = Check.of(heads(16, "mark", "/s 1;"));
         for (int h = 0; h < 16; h++) {
             x.asked(h, 99);
@@ -372,10 +372,22 @@ public final class PostEdgesTest {
         fit(x, 17, 1500, "0111111111111111");
         fit(x, 31, 100, "0000000000000001");
         fit(x, 32, 0, "0000000000000000");
+        // what an earlier and larger book came to is not in the way
+        String[] texts = {"mark a 1;mark b/s 1;mark c 1;", "mark a/s 1;mark b 1;", "mark a 1;mark b/s 1;mark c/s 1;mark d 1;", "mark a/s 1;"};
+        int[] lines = {4, 3, 6, 2};
+        int[][] losses = {{60, 40, 20, 1, 0}, {40, 20, 1, 0}, {80, 60, 40, 21, 2, 1, 0}, {20, 1, 0}};
+        for (int i = 0; i < texts.length; i++) {
+            Check.feed(x, texts[i]);
+            x.read();
+            check.due("lines of " + texts[i], x.count(4), lines[i]);
+            for (int n = lines[i]; n >= 0; n--) {
+                check.due(texts[i] + " in " + n, x.fit(n, NONE), losses[i][n]);
+            }
+        }
     }
 
     private static void changeNothing() {
-        check.sentence("if it is PRINTED as though (asking changes nothing)");
+        check.sentence("if it is PRINTED as though", "asking changes nothing");
         BackPages x = Check.of("mark a/s 1;see b a;asked b 5;");
         String before = Check.printed(x);
         x.posted(2);

@@ -30,6 +30,7 @@ public final class PrintEdgesTest {
         subAtBounds();
         widthBounds();
         printBounds();
+        printedNow();
         fullBook();
         check.end();
     }
@@ -149,6 +150,7 @@ public final class PrintEdgesTest {
         check.sentence("If it has ALSO: a row of units: these HEADS in THE ORDER, ahead of the first two blanks and 'see also '");
         BackPages x = Check.of("also a d;also a c_z;also a cb;mark a 1;");
         check.due("letter by letter", Check.printed(x), "a, 1\n  see also cb, c_z, d\n");
+        check.due("the first and the last of all", Check.printed(Check.of("also b c;also b a;")), "b\n  see also a, c\n");
         x.order(1);
         check.due("word by word", Check.printed(x), "a, 1\n  see also c_z, cb, d\n");
     }
@@ -220,7 +222,7 @@ public final class PrintEdgesTest {
     }
 
     private static void widthOfSubs() {
-        check.sentence("if the LINE is WIDTH bytes long at most with that (a SUB's two blanks count)");
+        check.sentence("bytes long at most with that", "a sub's two blanks count");
         BackPages x = Check.of("mark a/bc 10;mark a/bc 20;mark a/bc 30;mark a/bc 40;");
         x.width(20);
         check.due("20 bytes", Check.printed(x), "a\n  bc, 10, 20, 30, 40\n");
@@ -230,7 +232,7 @@ public final class PrintEdgesTest {
     }
 
     private static void widthOfAlso() {
-        check.sentence("if the LINE is WIDTH bytes long at most with that ('see also ' counts)");
+        check.sentence("bytes long at most with that", "'see also ' counts");
         BackPages x = Check.of("also a bcd;also a efgh;");
         x.width(20);
         check.due("20 bytes", Check.printed(x), "a\n  see also bcd, efgh\n");
@@ -329,9 +331,44 @@ public final class PrintEdgesTest {
         check.due("of what is left", x.print(0), NONE);
     }
 
+    private static void printedNow() {
+        check.sentence("Byte i of what is PRINTED", "as it is by then");
+        BackPages x = new BackPages();
+        check.due("none", Check.printed(x), "");
+        Check.feed(x, "mark a 5;mark b_c 7;mark bb 10;see d a;");
+        x.read();
+        check.due("read", Check.printed(x), "a, 5\nbb, 10\nb_c, 7\nd, see a\n");
+        x.add(3, NONE, 9, 9, true);
+        check.due("added", Check.printed(x), "a, 5\nbb, 10\nb_c, 7\nd, *9\n  see a\n");
+        x.drop(0);
+        check.due("dropped", Check.printed(x), "bb, 10\nb_c, 7\nd, *9\n  see a\n");
+        x.order(1);
+        check.due("ordered", Check.printed(x), "b_c, 7\nbb, 10\nd, *9\n  see a\n");
+        x.keep(0);
+        x.putIn(8, 2);
+        check.due("put in", Check.printed(x), "b_c, 7\nbb, 12\nd, *11\n  see a\n");
+        x.takeOut(7, 7);
+        check.due("taken out", Check.printed(x), "bb, 11\nd, *10\n  see a\n");
+        x.join(2, 3);
+        check.due("joined", Check.printed(x), "bb, *10-11\nd, see bb\n");
+        x.goBack(0);
+        check.due("gone back", Check.printed(x), "b_c, 7\nbb, 10\nd, *9\n  see a\n");
+        for (int p = 20; p <= 40; p += 5) {
+            x.add(2, NONE, p, p, false);
+        }
+        check.due("24 bytes", Check.printed(x), "b_c, 7\nbb, 10, 20, 25, 30, 35, 40\nd, *9\n  see a\n");
+        x.width(20);
+        check.due("in 20", Check.printed(x), "b_c, 7\nbb, 10, 20, 25, 30,\n    35, 40\nd, *9\n  see a\n");
+        Check.feed(x, "mark q");
+        x.read();
+        check.due("a fault", Check.printed(x), "b_c, 7\nbb, 10, 20, 25, 30,\n    35, 40\nd, *9\n  see a\n");
+        x.read();
+        check.due("no heads", Check.printed(x), "");
+    }
+
     /** As much as the bounds let in: 16 heads and six subs of 12 bytes, 60 marks, 8 also; against the second writing. */
     private static void fullBook() {
-        check.sentence("Byte i of what is PRINTED (of a full book)");
+        check.sentence("Byte i of what is PRINTED", "a full book");
         StringBuilder text = new StringBuilder();
         for (int h = 0; h < 16; h++) {
             text.append("asked bcdefghijkl").append((char) ('a' + h)).append("1;");

@@ -26,13 +26,19 @@ public final class RefusalTest {
         some.ofNumbers();
         some.ofPages();
         some.ofTheRest();
+        check.sentence("REFUSALS, of several the first in this order");
         some.ofSeveral();
+        check.sentence("NOT (not now, as told)");
         some.notNow();
+        check.sentence("UNKNOWN (a HEAD, SUB, MARK, PAIR, IMAGE that there is not", "a new object");
         new RefusalTest(BackPages::new).ofNone();
+        check.sentence("NOT (not now, as told), FULL");
         full();
+        check.sentence("NONE: not so many", "changes nothing either");
         some.notSoMany();
+        check.sentence("What is refused changes nothing", "what only asks neither");
         some.asking();
-        check.sentence("(what is not refused does change what is so)");
+        check.sentence("What is refused changes nothing", "what is not refused does");
         some.changes();
         check.end();
     }
@@ -292,7 +298,6 @@ public final class RefusalTest {
         subs.unknown("join to itself", x -> x.join(0, 0));
     }
 
-    /** NONE: not so many; that changes nothing either. */
     private void notSoMany() {
         for (int i : new int[] {-2, 12, LEAST, MOST}) {
             refused("name " + i, x -> x.name(0, NONE, i), NONE);
@@ -310,7 +315,6 @@ public final class RefusalTest {
         refused("posting within 0", x -> x.posting(0, 0), NONE);
     }
 
-    /** What only asks is answered alike, and changes nothing. */
     private void asking() {
         refused("fault", BackPages::fault, 5);
         refused("count 4", x -> x.count(4), 7);

@@ -17,9 +17,11 @@ public final class TextEdgesTest {
         linesInWords();
         subs();
         marks();
+        oneSeeAndASet();
         seesAndAlsos();
         timesAsked();
         bytesOfText();
+        numbersAsTheyCome();
         figures();
         blanks();
         sideBySide();
@@ -29,6 +31,7 @@ public final class TextEdgesTest {
         wordsThatCannotStand();
         numbersOutside();
         lastPages();
+        noSuchWords();
         seventeenthAndSeventh();
         oneTooMany();
         toldTwice();
@@ -39,6 +42,7 @@ public final class TextEdgesTest {
         feeding();
         fullText();
         readEmpties();
+        readAgain();
         readLeavesAll();
         faultOfTheLatest();
         counts();
@@ -185,6 +189,16 @@ public final class TextEdgesTest {
                 faulty("mark a 5 main " + c + ";", 1, 14);
             }
         }
+        for (String word : new String[] {"mark", "see", "also", "asked"}) {
+            for (int i = 0; i < word.length(); i++) {
+                String other = word.substring(0, i) + 'x' + word.substring(i + 1);
+                faulty(other + " a 1;", 1, 0);
+                faulty(other + " a b;", 1, 0);
+            }
+        }
+        for (int i = 0; i < 4; i++) {
+            faulty("mark a 1 " + "main".substring(0, i) + 'x' + "main".substring(i + 1) + ";", 1, 9);
+        }
         for (String word : new String[] {"mar", "marks", "maark", "se", "seen", "als", "alsos", "ask", "aske", "askedd", "main", "Mark"}) {
             faulty(word + " a 1;", 1, 0);
             faulty("mark a 1;" + word + " a b;", 1, 9);
@@ -264,6 +278,16 @@ public final class TextEdgesTest {
         faulty(sixty + "mark a1;", 5, sixty.length());
     }
 
+    private static void oneSeeAndASet() {
+        check.sentence("A HEAD may have one SEE (another HEAD), ALSO (a SET of others)");
+        BackPages x = fine("see a b;also a b;also a c;also a d;also a e;also a f;also a g;also a h;also a i;see b a;", 9);
+        check.due("its see", x.head(0, 2), 1);
+        check.due("eight others", x.head(0, 3), 0x1fe);
+        check.due("b's see", x.head(1, 2), 0);
+        check.due("b's also", x.head(1, 3), 0);
+        check.due("c's see", x.head(2, 2), NONE);
+    }
+
     private static String links(String clause, int many) {
         StringBuilder text = new StringBuilder();
         for (int i = 0; i < many; i++) {
@@ -301,6 +325,19 @@ public final class TextEdgesTest {
         faulty("mark " + "a".repeat(595), 3, 5);
         faulty("a".repeat(600), 1, 0);
         faulty("mark a " + "1".repeat(593), 2, 7);
+    }
+
+    private static void numbersAsTheyCome() {
+        check.sentence("HEADS are numbered as they first come in it (in any clause), SUBS of a HEAD likewise");
+        BackPages x = fine("also z y;see x z;asked w 1;mark v/s 1;mark y/t 2;mark v/r 3;mark v/s 4;mark u 5;", 6);
+        StringBuilder names = new StringBuilder();
+        for (int h = 0; h < 6; h++) {
+            names.append(Check.name(x, h, NONE));
+        }
+        check.due("heads", names.toString(), "zyxwvu");
+        check.due("v's subs", Check.name(x, 4, 0) + Check.name(x, 4, 1), "sr");
+        check.due("y's sub", Check.name(x, 1, 0), "t");
+        check.due("marks", Check.marks(x), "4/0:1-1 1/0:2-2 4/1:3-3 4/0:4-4 5:5-5");
     }
 
     // ---- numbers and blanks
@@ -454,6 +491,20 @@ public final class TextEdgesTest {
         faulty("mark a 1-1", 2, 9);
     }
 
+    private static void noSuchWords() {
+        check.sentence("3 a head or sub that is no such WORD (at its first byte)");
+        faulty("mark  a_ 1;", 3, 6);
+        faulty("mark a / b_ 1;", 3, 9);
+        faulty("see  a__b c;", 3, 5);
+        faulty("see c  _a;", 3, 7);
+        faulty("also _a c;", 3, 5);
+        faulty("also c " + THIRTEEN + ";", 3, 7);
+        faulty("asked a_ 1;", 3, 6);
+        faulty("mark a_", 3, 5);
+        faulty("mark a_5x", 3, 5);
+        faulty("mark a/_", 3, 7);
+    }
+
     private static void seventeenthAndSeventh() {
         check.sentence("4 a seventeenth HEAD, a seventh SUB of a HEAD (at its first byte)");
         String sixteen = heads(16);
@@ -491,6 +542,10 @@ public final class TextEdgesTest {
         faulty("see a b;see  a a;", 6, 13);
         faulty("asked a 5;asked a 5;", 6, 16);
         faulty("asked a 0;asked a 7;", 6, 16);
+        faulty("asked a 5;asked b 5;asked a 6;", 6, 26);
+        faulty("asked a 5;asked b 5;asked b 6;", 6, 26);
+        faulty("see a b;see b a;see a b;", 6, 20);
+        faulty("see a b;see b a;see b a;", 6, 20);
         faulty("asked a 5;mark b 1;asked  a 6;", 6, 26);
         fine("see a b;see b a;see c a;asked a 5;asked b 5;mark a 1;mark a 1;", 3);
     }
@@ -614,6 +669,31 @@ public final class TextEdgesTest {
             text.append("asked ").append((char) ('a' + h)).append(" 1;");
         }
         check.due("sixteen", reads(text.toString(), 16, NONE).count(0), 16);
+    }
+
+    private static void readAgain() {
+        check.sentence("becomes all HEADS and MARKS", "each time anew");
+        BackPages x = new BackPages();
+        String[] texts = {"mark a/x 1;mark a/y 2;mark b/z 3;see b a;also a b;asked a 5;" + links("see", 1).replace('a', 'c') + links("also", 7),
+            "mark a/x 1;mark b/x 2;", links("see", 8), links("also", 8), "asked a 0;asked b 0;", heads(16), "mark a1;".repeat(60)};
+        for (int time = 0; time < 3; time++) {
+            for (String text : texts) {
+                Check.feed(x, text);
+                int heads = x.read();
+                check.due("read of " + text, View.told(x), View.told(fine(text, heads)));
+                check.due("lines of " + text, x.count(4), Check.of(text).count(4));
+                if (time > 0) {
+                    Check.feed(x, text);
+                    check.due("read again of " + text, x.read(), heads);
+                    check.due("told again by " + text, View.told(x), View.told(Check.of(text)));
+                }
+            }
+        }
+        for (String text : new String[] {"mark a/x 1;", "mark a/y 1;", "mark a 1;", "mark a/x 1;", "mark a/x 1;mark a/y 2;", "mark a/y 1;"}) {
+            Check.feed(x, text);
+            x.read();
+            check.due("read then of " + text, View.told(x), View.told(Check.of(text)));
+        }
     }
 
     private static BackPages much() {
