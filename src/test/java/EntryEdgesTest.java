@@ -117,7 +117,8 @@ public final class EntryEdgesTest {
     // ---- promise 6
 
     private static void headAsked() {
-        check.sentence("Of a HEAD: what = 0 how many SUBS, 1 OWN RUNS, 2 SEE (NONE), 3 ALSO, 4 ASKED, 5 whether it is FILLED (1, 0), 6 LINES of it PRINTED");
+        check.sentence("Of a HEAD: what = 0 how many SUBS, 1 OWN RUNS, 2 SEE (NONE), 3 ALSO, 4 ASKED, 5 whether it is FILLED (1, 0), "
+                + "6 LINES of it PRINTED");
         BackPages x = sixteen();
         int[] first = {0, 0, 15, 1 << 15, 1, 0, 2};
         int[] second = {0, 0, NONE, 0, 1, 0, 0};

@@ -201,23 +201,24 @@ public final class PageEdgesTest {
         check.sentence("(HEAD and SUB; also if there is none such)");
         BackPages x = Check.of("mark a 5;mark a/s 6;mark b/s 7;mark s 8;");
         x.keep(0);
-        String[] texts = {"mark s 8;mark b/t 1;mark b/s 7;mark a/s 6;mark a 5;", "mark a 5;mark a/s 6;mark b/s 7;", "mark a 5;mark a/t 6;mark b/s 7;mark s 8;",
-            "mark a 6;mark a/s 5;mark b/s 8;mark s 7;", "mark a/s 5;mark a 8;mark b 7;mark b/s 6;", "mark q 1;", "mark a 5;mark s 6;mark b/a 7;mark b 8;", ""};
+        String[] texts = {"mark s 8;mark b/t 1;mark b/s 7;mark a/s 6;mark a 5;", "mark a 5;mark a/s 6;mark b/s 7;",
+            "mark a 5;mark a/t 6;mark b/s 7;mark s 8;", "mark a 6;mark a/s 5;mark b/s 8;mark s 7;",
+            "mark a/s 5;mark a 8;mark b 7;mark b/s 6;", "mark q 1;", "mark a 5;mark s 6;mark b/a 7;mark b 8;", ""};
         int[] due = {0, 1, 1, 4, 4, 4, 3, 4};
         for (int i = 0; i < texts.length; i++) {
             Check.feed(x, texts[i]);
             x.read();
             check.due("now '" + texts[i] + "'", x.stale(0), due[i]);
         }
-        StringBuilder text = new StringBuilder("mark p/a 1;mark p/b 2;mark p/c 3;mark p/d 4;mark p/e 5;mark p/f 6;");
+        StringBuilder text = new StringBuilder();
         for (int h = 0; h < 15; h++) {
             text.append("mark ").append((char) ('a' + h)).append(' ').append(h + 7).append(';');
         }
-        BackPages full = Check.of(text.toString());
+        BackPages full = Check.of(text + "mark p/a 1;mark p/b 2;mark p/c 3;mark p/d 4;mark p/e 5;mark p/f 6;");
         full.keep(0);
         check.due("16 heads", full.stale(0), 0);
-        full.join(15, 0);
-        check.due("p's are o's", full.stale(0), 6);
+        full.join(0, 15);
+        check.due("p's are a's", full.stale(0), 6);
         full.read();
         check.due("no heads", full.stale(0), 21);
         BackPages none = new BackPages();

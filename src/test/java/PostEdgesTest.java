@@ -57,7 +57,8 @@ public final class PostEdgesTest {
     // ---- posted
 
     private static void postedWithAllMarks() {
-        check.sentence("POSTED is a HEAD that is not FILLED, if it is PRINTED as though it had all MARKS (OWN, of SUBS) of the HEAD that is FOUND from it");
+        check.sentence("POSTED is a HEAD that is not FILLED, if it is PRINTED as though it had all MARKS "
+                + "(OWN, of SUBS) of the HEAD that is FOUND from it");
         BackPages x = Check.of("mark a 1;mark a/s 2;mark a/t 3;see b a;see c b;");
         check.due("none", x.posted(0), 5);
         check.due("b", x.posted(2), 7);
@@ -332,7 +333,8 @@ public final class PostEdgesTest {
     }
 
     private static void fitBounds() {
-        check.sentence("THE FIT into n LINES: h = NONE its LOSS, else what is done with a HEAD (0 .. 2; 0 of one that is not PRINTED). UNKNOWN, OUTSIDE.");
+        check.sentence("THE FIT into n LINES: h = NONE its LOSS, "
+                + "else what is done with a HEAD (0 .. 2; 0 of one that is not PRINTED). UNKNOWN, OUTSIDE.");
         BackPages x = Check.of("mark a 1;mark b 1;");
         fit(x, 200, 0, "00");
         fit(x, 0, 40, "22");
