@@ -6,6 +6,8 @@ public final class EntryEdgesTest {
 
     public static void main(String[] args) {
         numbers();
+        marksOfEntries();
+        entries();
         runsTogether();
         runsMain();
         filled();
@@ -58,6 +60,32 @@ public final class EntryEdgesTest {
         check.due("subs", Check.name(x, 2, 0) + Check.name(x, 2, 1), "zy");
         check.due("marks", Check.marks(x), "2/0:5-5 1/0:1-1 2/1:3-3");
         check.due("added", x.add(0, NONE, 1, 1, false), 3);
+    }
+
+    private static void marksOfEntries() {
+        check.sentence("MARKS (60 at most) are of a HEAD (OWN ones) or of a SUB of it, from PAGE P to PAGE Q, MAIN or not");
+        BackPages x = Check.of("mark a 5;mark a 5-9 main;mark b/s 6;mark b/s 1-99 main;mark a/s 7;");
+        check.due("told", Check.marks(x), "0:5-5 0:*5-9 1/0:6-6 1/0:*1-99 0/0:7-7");
+        check.due("own", x.add(1, NONE, 8, 8, false), 5);
+        check.due("own, main", x.add(1, NONE, 8, 9, true), 6);
+        check.due("of a sub", x.add(0, 0, 3, 4, false), 7);
+        check.due("of a sub, main", x.add(0, 0, 3, 3, true), 8);
+        check.due("added", Check.marks(x), "0:5-5 0:*5-9 1/0:6-6 1/0:*1-99 0/0:7-7 1:8-8 1:*8-9 0/0:3-4 0/0:*3-3");
+        BackPages full = Check.of("mark a/s1;".repeat(59) + "mark b2;");
+        check.due("the sixtieth", full.mark(59, 0), 1);
+        check.due("it is own", full.mark(59, 1), NONE);
+        check.due("the one ahead is of a sub", full.mark(58, 1), 0);
+    }
+
+    private static void entries() {
+        check.sentence("An ENTRY is a HEAD (by its OWN MARKS) or a SUB");
+        BackPages x = Check.of("mark a 5;mark a/s 7;mark a/t 9;mark b/s 11;mark s 13;");
+        check.due("a by its own", Check.runs(x, 0, NONE), "5-5");
+        check.due("a's subs", Check.runs(x, 0, 0) + " " + Check.runs(x, 0, 1), "7-7 9-9");
+        check.due("b has no own", Check.runs(x, 1, NONE), "");
+        check.due("b's sub of the same word", Check.runs(x, 1, 0), "11-11");
+        check.due("the head of that word", Check.runs(x, 2, NONE), "13-13");
+        check.due("own runs are counted alone", x.head(0, 1) + " " + x.head(1, 1), "1 0");
     }
 
     private static void runsTogether() {
@@ -230,7 +258,7 @@ public final class EntryEdgesTest {
     // ---- promise 9
 
     private static void addPages() {
-        check.sentence("OUTSIDE (PAGES; q below p)");
+        check.sentence("its number. UNKNOWN, OUTSIDE (PAGES; q below p)");
         BackPages x = Check.of("asked a 1;");
         check.due("1 to 1", x.add(0, NONE, 1, 1, false), 0);
         check.due("99 to 99", x.add(0, NONE, 99, 99, true), 1);

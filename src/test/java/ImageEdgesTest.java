@@ -191,7 +191,7 @@ public final class ImageEdgesTest {
     }
 
     private static void joinUnknown() {
-        check.sentence("UNKNOWN (one twice)");
+        check.sentence("how many MARKS a has then (all). UNKNOWN (one twice)");
         BackPages x = Check.of("mark a/s 1;mark b 2;see c b;");
         String before = View.told(x);
         for (int h : new int[] {-1, 3, LEAST, MOST}) {
@@ -368,7 +368,7 @@ public final class ImageEdgesTest {
     }
 
     private static void imageBounds() {
-        check.sentence("UNKNOWN, NOT: it was not kept");
+        check.sentence("What is so becomes IMAGE i: 1. UNKNOWN, NOT: it was not kept");
         BackPages x = Check.of("mark a 1;");
         for (int i : new int[] {-1, 2, 3, LEAST, MOST}) {
             check.due("keep " + i, x.keep(i), UNKNOWN);

@@ -1,10 +1,16 @@
 import com.sun.source.tree.AnnotationTree;
 import com.sun.source.tree.AssertTree;
+import com.sun.source.tree.BinaryTree;
+import com.sun.source.tree.BlockTree;
 import com.sun.source.tree.CatchTree;
 import com.sun.source.tree.ClassTree;
 import com.sun.source.tree.CompilationUnitTree;
+import com.sun.source.tree.CompoundAssignmentTree;
+import com.sun.source.tree.ExpressionTree;
+import com.sun.source.tree.ForLoopTree;
 import com.sun.source.tree.ImportTree;
 import com.sun.source.tree.LambdaExpressionTree;
+import com.sun.source.tree.LiteralTree;
 import com.sun.source.tree.MemberReferenceTree;
 import com.sun.source.tree.MethodInvocationTree;
 import com.sun.source.tree.MethodTree;
@@ -14,7 +20,9 @@ import com.sun.source.tree.SynchronizedTree;
 import com.sun.source.tree.ThrowTree;
 import com.sun.source.tree.Tree;
 import com.sun.source.tree.TryTree;
+import com.sun.source.tree.TypeCastTree;
 import com.sun.source.tree.VariableTree;
+import com.sun.source.tree.WhileLoopTree;
 import com.sun.source.util.JavacTask;
 import com.sun.source.util.TreePath;
 import com.sun.source.util.TreePathScanner;
@@ -35,6 +43,7 @@ import java.util.Set;
 import java.util.TreeSet;
 import javax.lang.model.element.Element;
 import javax.lang.model.element.ExecutableElement;
+import javax.lang.model.element.VariableElement;
 import javax.tools.JavaCompiler;
 import javax.tools.StandardJavaFileManager;
 import javax.tools.ToolProvider;
@@ -46,6 +55,11 @@ public final class LanguageTest {
     private static final Set<String> LIBRARY = Set.of("java.lang.String.length", "java.lang.String.charAt",
             "java.lang.System.arraycopy", "java.lang.Math.min", "java.lang.Math.max", "java.lang.Integer.bitCount",
             "java.lang.Long.bitCount", "java.lang.Object.<init>");
+    /** Beside the classes of its own and rows of these. */
+    private static final Set<String> TYPES = Set.of("int", "long", "byte", "boolean", "int[]", "long[]", "byte[]", "boolean[]", "void",
+            "java.lang.String");
+    private static final Set<String> STATIC_TYPES = Set.of("int", "long", "boolean", "char", "java.lang.String", "int[]", "long[]", "char[]",
+            "byte[]");
     private static final String[] FACE = {"feed(int,long)", "read()", "fault()", "count(int)", "head(int,int)",
         "name(int,int,int)", "mark(int,int)", "add(int,int,int,int,boolean)", "drop(int)", "asked(int,int)",
         "run(int,int,int,int)", "order(int)", "at(int)", "subAt(int,int)", "width(int)", "print(int)", "look(int,int)",
@@ -174,14 +188,23 @@ public final class LanguageTest {
             if (!top && !flags.contains(javax.lang.model.element.Modifier.STATIC)) {
                 breaks("an inner class that is not static", tree);
             }
+            if (tree.getKind() != Tree.Kind.CLASS) {
+                breaks("another kind of class than these rules go through", tree);
+            }
             int fields = 0;
             for (Tree member : tree.getMembers()) {
+                if (member instanceof BlockTree) {
+                    breaks("a block that sets a class or an object up", member);
+                }
                 if (member instanceof VariableTree field) {
                     Set<javax.lang.model.element.Modifier> of = field.getModifiers().getFlags();
                     boolean fixed = of.contains(javax.lang.model.element.Modifier.STATIC);
                     fields += fixed ? 0 : 1;
                     if (fixed && !of.contains(javax.lang.model.element.Modifier.FINAL)) {
                         breaks("a static field that is not final", field);
+                    }
+                    if (fixed && !STATIC_TYPES.contains(typeOf(field.getType()))) {
+                        breaks("a static " + field.getType(), field);
                     }
                 }
             }
@@ -200,6 +223,12 @@ public final class LanguageTest {
             if (!open && faceNames.contains(tree.getName().toString())) {
                 breaks("a name of the face", tree);
             }
+            if (Set.of("equals", "hashCode", "toString", "finalize", "clone").contains(tree.getName().toString())) {
+                breaks("a method of Object's", tree);
+            }
+            if (tree.getReturnType() != null) {
+                holdsType(tree.getReturnType());
+            }
             if (tree.getParameters().size() > 7) {
                 breaks("more than seven parameters", tree);
             }
@@ -209,6 +238,95 @@ public final class LanguageTest {
             super.visitMethod(tree, nothing);
             inside = "";
             return null;
+        }
+
+        private String typeOf(Tree tree) {
+            return String.valueOf(trees.getTypeMirror(TreePath.getPath(unit, tree)));
+        }
+
+        private void holdsType(Tree tree) {
+            String type = typeOf(tree);
+            if (!TYPES.contains(type) && !type.matches("BackPages(\\.\\w+)?(\\[\\])?")) {
+                breaks("the type " + type, tree);
+            }
+        }
+
+        @Override
+        public Void visitVariable(VariableTree tree, Void nothing) {
+            holdsType(tree.getType());
+            return super.visitVariable(tree, nothing);
+        }
+
+        private boolean isText(ExpressionTree tree) {
+            return typeOf(tree).equals("java.lang.String");
+        }
+
+        /** A divisor is a number that stands there, or a constant, and not 0. */
+        private void holdsDivisor(ExpressionTree divisor) {
+            Object value = divisor instanceof LiteralTree literal ? literal.getValue() : null;
+            if (trees.getElement(TreePath.getPath(unit, divisor)) instanceof VariableElement variable) {
+                value = variable.getConstantValue();
+            }
+            if (!(value instanceof Integer number) || number == 0) {
+                breaks("a divisor that is no constant", divisor);
+            }
+        }
+
+        @Override
+        public Void visitBinary(BinaryTree tree, Void nothing) {
+            switch (tree.getKind()) {
+                case DIVIDE, REMAINDER -> holdsDivisor(tree.getRightOperand());
+                case PLUS, EQUAL_TO, NOT_EQUAL_TO -> {
+                    if (isText(tree.getLeftOperand()) || isText(tree.getRightOperand())) {
+                        breaks("texts joined by + or compared by ==", tree);
+                    }
+                }
+                default -> { }
+            }
+            return super.visitBinary(tree, nothing);
+        }
+
+        @Override
+        public Void visitCompoundAssignment(CompoundAssignmentTree tree, Void nothing) {
+            if (tree.getKind() == Tree.Kind.DIVIDE_ASSIGNMENT || tree.getKind() == Tree.Kind.REMAINDER_ASSIGNMENT) {
+                holdsDivisor(tree.getExpression());
+            }
+            if (isText(tree.getVariable())) {
+                breaks("texts joined by +=", tree);
+            }
+            return super.visitCompoundAssignment(tree, nothing);
+        }
+
+        @Override
+        public Void visitForLoop(ForLoopTree tree, Void nothing) {
+            if (tree.getCondition() == null || tree.getUpdate().isEmpty()) {
+                breaks("a loop without an end of its own", tree);
+            }
+            return super.visitForLoop(tree, nothing);
+        }
+
+        @Override
+        public Void visitWhileLoop(WhileLoopTree tree, Void nothing) {
+            if (tree.getCondition().toString().equals("(true)")) {
+                breaks("a loop without an end of its own", tree);
+            }
+            return super.visitWhileLoop(tree, nothing);
+        }
+
+        @Override
+        public Void visitTypeCast(TypeCastTree tree, Void nothing) {
+            if (!Set.of("int", "long", "byte").contains(typeOf(tree.getType()))) {
+                breaks("a cast to " + tree.getType(), tree);
+            }
+            return super.visitTypeCast(tree, nothing);
+        }
+
+        @Override
+        public Void visitLiteral(LiteralTree tree, Void nothing) {
+            if (tree.getValue() instanceof String text && !text.matches("[\\x01-\\x7f]*")) {
+                breaks("a sign that is not 1 to 127", tree);
+            }
+            return super.visitLiteral(tree, nothing);
         }
 
         @Override

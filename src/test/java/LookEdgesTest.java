@@ -10,6 +10,7 @@ public final class LookEdgesTest {
         fewestSteps();
         itselfAndNone();
         mostSteps();
+        oneOfEach();
         blind();
         round();
         filledWithSee();
@@ -141,6 +142,19 @@ public final class LookEdgesTest {
 
     // ---- trouble
 
+    /** Each head has one trouble alone, but for the last two: they go round and are blind by that. */
+    private static void oneOfEach() {
+        check.sentence("TROUBLE: HEADS that:");
+        BackPages x = Check.of("asked a 1;mark b 1;see b c;mark c 3-4;mark c/s 5;mark d 7;mark d 9;mark e 3-4;mark e/t 11;mark e/u 12;"
+                + "also e a;mark f/v 13;mark f/w 14;mark g 13-14;see h i;see i h;");
+        int[] due = {1 + 128 + 256, 128 + 256, 2, 8, 4, 16, 32 + 64};
+        for (int what = 0; what <= 6; what++) {
+            check.due("trouble " + what, x.trouble(what, 1), due[what]);
+        }
+        check.due("two own runs, m 2", x.trouble(3, 2), 0);
+        check.due("one own run, m 0", x.trouble(3, 0), 2 + 8 + 64);
+    }
+
     private static void blind() {
         check.sentence("0 are BLIND: not FILLED, and FOUND is NONE (also such as have nothing at all)");
         BackPages x = Check.of("asked a 1;see b a;see c d;see d c;also e f;mark f 1;see g f;mark h/s 1;see h a;");
@@ -190,7 +204,7 @@ public final class LookEdgesTest {
     }
 
     private static void mAtItsBounds() {
-        check.sentence("(m counts for 3 alone; 0 .. 20 it must be in any case)");
+        check.sentence("TROUBLE: the SET (m counts for 3 alone; 0 .. 20 it must be in any case)");
         BackPages x = Check.of("mark a 1;see a b;see b a;mark c/s 1;also c d;");
         int[] due = {8, 3, 1, 1, 4, 4, 5};
         for (int what = 0; what <= 6; what++) {

@@ -32,7 +32,7 @@ public final class PageEdgesTest {
     // ---- put in
 
     private static void putIn() {
-        check.sentence("PUT IN: n (1 .. 9) behind PAGE p (0 .. 99): each P, each Q that is above p is n more");
+        check.sentence("PAGES are PUT IN: n (1 .. 9) behind PAGE p (0 .. 99): each P, each Q that is above p is n more");
         String text = "mark a 1;mark a 9;mark a 10;mark a 11;mark a 9-10;mark a 10-11;mark a 9-11;mark a 11-12;mark a 90;";
         BackPages x = Check.of(text);
         check.due("behind 10", x.putIn(10, 3), 5);
@@ -251,7 +251,7 @@ public final class PageEdgesTest {
     // ---- pairs
 
     private static void pairsLater() {
-        check.sentence("OUTSIDE, NOT: u is not later than that of the one before; FULL.", "NOT");
+        check.sentence("A PAIR: how many there are. OUTSIDE, NOT: u is not later than that of the one before; FULL.");
         BackPages x = new BackPages();
         check.due("the first", x.saw(5, 9), 1);
         check.due("the same", x.saw(5, 10), NOT);
@@ -285,7 +285,7 @@ public final class PageEdgesTest {
     }
 
     private static void pairsFull() {
-        check.sentence("A PAIR: how many there are. OUTSIDE, NOT: u is not later than that of the one before; FULL.", "20 at most");
+        check.sentence("PAIRS (20 at most) are looked up");
         BackPages x = new BackPages();
         for (int i = 1; i <= 20; i++) {
             check.due("pair " + i, x.saw(i, i), i);

@@ -108,7 +108,8 @@ public final class PostEdgesTest {
     }
 
     private static void withinLines() {
-        check.sentence("that SAVES most, if LINES of the whole with these POSTED are n or fewer");
+        check.sentence("THE BEST POSTING within n LINES: the SET of such HEADS (FOUND is not NONE; 10 at most, by numbers) "
+                + "that SAVES most, if LINES of the whole with these POSTED are n or fewer");
         // b sees two lines more, c one
         BackPages x = Check.of("mark a/s 1;mark a/t 2;see b a;mark z/s 1;see c z;asked b 9;asked c 4;");
         check.due("plain", x.count(4), 7);
@@ -243,7 +244,8 @@ public final class PostEdgesTest {
     }
 
     private static void fitsJust() {
-        check.sentence("whether as it is (0), FOLDED (1), LEFT OUT (2), so that LINES together are n or fewer: the least LOSS");
+        check.sentence("THE FIT into n LINES (0 .. 200): of each HEAD that is PRINTED whether as it is (0), FOLDED (1), LEFT OUT (2), "
+                + "so that LINES together are n or fewer: the least LOSS");
         // lines: a 3 (folded 1, loss 2), b 2 (folded 1, loss 1), c 1
         BackPages x = Check.of("mark a/s 1;mark a/t 3;mark b/s 1;mark c 1;");
         fit(x, 7, 0, "000");
@@ -305,7 +307,7 @@ public final class PostEdgesTest {
     }
 
     private static void cannotBePosted() {
-        check.sentence("NOT: some of them cannot be");
+        check.sentence("LINES of the whole with a SET of HEADS POSTED. UNKNOWN, NOT: some of them cannot be");
         BackPages x = Check.of("mark a 1;see b a;asked c 1;see d e;see e d;see f c;also g a;mark h 1;see h a;");
         check.due("b", x.posted(2), x.count(4));
         for (int h : new int[] {0, 2, 3, 4, 5, 6, 7}) {

@@ -12,6 +12,7 @@ public final class PrintEdgesTest {
         beginsWith();
         alike();
         whatIsPrinted();
+        rowsInOrder();
         seeAlone();
         ownRuns();
         subsWithMarks();
@@ -111,6 +112,14 @@ public final class PrintEdgesTest {
         x.drop(0);
         check.due("without marks", Check.printed(x), "a, 1\nb, see e\nc\n  see also e\n");
         check.due("none", Check.printed(heads("a", "b")), "");
+    }
+
+    private static void rowsInOrder() {
+        check.sentence("of each in this order: if it is not FILLED and has a SEE");
+        BackPages x = Check.of("also c d;also c a;see c e;mark c/t 9;mark c/s 7;mark c 5;mark c 3;see b c;also b a;also b e;");
+        check.due("own, subs, see, also", Check.printed(x), "b, see c\n  see also a, e\nc, 3, 5\n  s, 7\n  t, 9\n  see e\n  see also a, d\n");
+        check.due("c's lines", x.head(0, 6), 5);
+        check.due("b's lines", x.head(4, 6), 2);
     }
 
     private static void seeAlone() {

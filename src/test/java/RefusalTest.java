@@ -23,6 +23,7 @@ public final class RefusalTest {
         check.sentence("What is refused changes nothing");
         RefusalTest some = new RefusalTest(RefusalTest::some);
         some.ofHeads();
+        check.sentence("OUTSIDE (another number out of its bounds)");
         some.ofNumbers();
         some.ofPages();
         some.ofTheRest();
@@ -34,7 +35,7 @@ public final class RefusalTest {
         new RefusalTest(BackPages::new).ofNone();
         check.sentence("NOT (not now, as told), FULL");
         full();
-        check.sentence("NONE: not so many", "changes nothing either");
+        check.sentence("What is refused changes nothing", "what answers NONE neither");
         some.notSoMany();
         check.sentence("What is refused changes nothing", "what only asks neither");
         some.asking();

@@ -89,8 +89,9 @@ public final class TextEdgesTest {
     }
 
     private static void refusals() {
-        check.sentence("They are far below all that is counted: -1001 and on");
+        check.sentence("NONE is -1");
         check.due("NONE", NONE, -1);
+        check.sentence("They are far below all that is counted: -1001 and on");
         check.due("UNKNOWN", UNKNOWN, -1001);
         check.due("OUTSIDE", OUTSIDE, -1002);
         check.due("NOT", NOT, -1003);
@@ -227,7 +228,7 @@ public final class TextEdgesTest {
     }
 
     private static void lengthsOfWords() {
-        check.sentence("WORDS of 12 bytes at most");
+        check.sentence("HEADS (16 at most) are WORDS of 12 bytes at most");
         String[] ahead = {"mark ", "mark a/", "see ", "see a ", "also ", "also a ", "asked "};
         String[] behind = {" 1;", " 1;", " a;", ";", " a;", ";", " 1;"};
         for (int i = 0; i < ahead.length; i++) {
