@@ -9,6 +9,7 @@ public final class ImageEdgesTest {
         alike();
         andS();
         oneByte();
+        everyPlace();
         firstThatIsSo();
         nearBounds();
         marksBecome();
@@ -92,6 +93,54 @@ public final class ImageEdgesTest {
         near(0, "abcd", "abxy");
         near(0, "abcd", "xbcdy");
         near(0, "a", "abc");
+    }
+
+    private static boolean isOneByteOff(String a, String b) {
+        for (int i = 0; i < a.length(); i++) {
+            String without = a.substring(0, i) + a.substring(i + 1);
+            if (without.equals(b) || i < b.length() && without.equals(b.substring(0, i) + b.substring(i + 1)) && a.length() == b.length()) {
+                return true;
+            }
+        }
+        return false;
+    }
+
+    private static int nearDue(String a, String b) {
+        if (a.equals(b)) {
+            return 1;
+        }
+        if (a.equals(b + "s") || b.equals(a + "s")) {
+            return 2;
+        }
+        return isOneByteOff(a, b) || isOneByteOff(b, a) ? 3 : 0;
+    }
+
+    /** Words of each length, and others with two bytes changed, put in or left out, at every two places. */
+    private static void everyPlace() {
+        check.sentence("3: one byte is other, put in, or left out", "at every place");
+        for (int length = 1; length <= 12; length++) {
+            String word = "bdbcrsbbcdsr".substring(12 - length);
+            for (int i = 0; i < length; i++) {
+                for (int j = i; j < length; j++) {
+                    StringBuilder other = new StringBuilder(word);
+                    other.setCharAt(i, (char) (word.charAt(i) + 1));
+                    nearPlainly(word, other.toString());
+                    other.setCharAt(j, (char) (word.charAt(j) ^ 1));
+                    nearPlainly(word, other.toString());
+                    other.deleteCharAt(i);
+                    nearPlainly(word, other.toString());
+                    nearPlainly(word, word.substring(0, i) + word.substring(j));
+                    nearPlainly(word, word.substring(0, i) + 's' + word.substring(i, j) + word.substring(j + 1));
+                    nearPlainly(word, word.substring(0, j) + "sb" + word.substring(j));
+                }
+            }
+        }
+    }
+
+    private static void nearPlainly(String a, String b) {
+        if (!a.equals(b) && !b.isEmpty() && b.length() <= 12) {
+            near(nearDue(a, b), a, b);
+        }
     }
 
     private static void firstThatIsSo() {

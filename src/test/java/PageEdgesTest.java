@@ -210,6 +210,18 @@ public final class PageEdgesTest {
             x.read();
             check.due("now '" + texts[i] + "'", x.stale(0), due[i]);
         }
+        BackPages own = Check.of("mark a 9;mark b/s 5;mark c/s 7;mark c/t 8;");
+        own.keep(0);
+        // the sub is gone, and its pages are own ones of its head, of the first head, of another sub
+        int[] left = {0, 1, 1, 1, 1, 2, 2};
+        String[] now = {"mark a 9;mark b/s 5;mark c/s 7;mark c/t 8;", "mark a 9;mark b 5;mark c/s 7;mark c/t 8;",
+            "mark a 9;mark a 5;mark b 3;mark c/s 7;mark c/t 8;", "mark a 9;mark b/s 5;mark c/s 7;mark c 8;", "mark a 9;mark b/s 5;mark c/t 8;mark c 7;",
+            "mark a 9;mark b/s 5;mark c/u 7;mark c/v 8;", "mark a 9;mark b/s 5;mark a/s 7;mark a/t 8;mark c 5;"};
+        for (int i = 0; i < now.length; i++) {
+            Check.feed(own, now[i]);
+            own.read();
+            check.due("now '" + now[i] + "'", own.stale(0), left[i]);
+        }
         StringBuilder text = new StringBuilder();
         for (int h = 0; h < 15; h++) {
             text.append("mark ").append((char) ('a' + h)).append(' ').append(h + 7).append(';');
