@@ -23,6 +23,7 @@ public final class ImageEdgesTest {
         joinFull();
         twoImages();
         imagesKeep();
+        fullImages();
         imagesKeepNot();
         imagesStay();
         imagesOfNone();
@@ -359,6 +360,50 @@ public final class ImageEdgesTest {
         last.read();
         last.goBack(0);
         check.due("all again", View.told(last), told);
+    }
+
+    /** 16 heads, 8 see, 8 also (the last heads'), two heads of six subs, 60 marks. */
+    private static BackPages full() {
+        StringBuilder text = new StringBuilder("asked a 1;asked b 2;asked c 3;asked d 4;");
+        for (char head = 'e'; head <= 'p'; head++) {
+            text.append("asked ").append(head).append(head - 'a' + 1).append(';');
+        }
+        for (char head = 'i'; head <= 'p'; head++) {
+            text.append("see ").append(head).append(" c;also ").append(head).append(' ').append((char) (head - 8)).append(';');
+        }
+        for (char sub = 'u'; sub <= 'z'; sub++) {
+            text.append("mark a/").append(sub).append("7;mark p/").append(sub).append("9;");
+        }
+        BackPages x = Check.of(text.toString());
+        for (int k = 12; k < 60; k++) {
+            x.add(k % 2 == 0 ? 15 : k % 16, k % 2 == 0 ? k % 6 : NONE, k, k + k % 3, k % 4 > 1);
+        }
+        return x;
+    }
+
+    private static void fullImages() {
+        check.sentence("keep HEADS, MARKS and what is told of them", "all of them, the last ones too");
+        BackPages first = full();
+        String heads = View.heads(first);
+        String marks = Check.marks(full());
+        check.due("the last head", heads.substring(heads.indexOf("\np ") + 1), "p see 2 also 128 asked 16 subs u v w x y z\n");
+        check.due("the last mark", marks.substring(marks.lastIndexOf(' ') + 1), "11:*59-61");
+        for (int i = 0; i < 2; i++) {
+            BackPages x = keptAndBack(i);
+            check.due("heads of image " + i, View.heads(x), heads);
+            BackPages y = keptAndBack(i);
+            check.due("marks of image " + i, Check.marks(y), marks);
+        }
+    }
+
+    private static BackPages keptAndBack(int i) {
+        BackPages x = full();
+        x.keep(i);
+        Check.feed(x, "mark z 1;");
+        check.due("another text", x.read(), 1);
+        x.keep(1 - i);
+        check.due("back to " + i, x.goBack(i), 1);
+        return x;
     }
 
     private static void imagesKeepNot() {

@@ -34,6 +34,11 @@ final class View {
 
     /** Heads, marks and what is told of them. */
     static String told(BackPages x) {
+        return heads(x) + Check.marks(x);
+    }
+
+    /** Heads, and what is told of them, a line each. */
+    static String heads(BackPages x) {
         StringBuilder out = new StringBuilder();
         int heads = x.count(0);
         for (int h = 0; h < heads; h++) {
@@ -45,7 +50,7 @@ final class View {
             }
             out.append('\n');
         }
-        return out.append(Check.marks(x)).toString();
+        return out.toString();
     }
 
     private static String pairs(BackPages x) {
