@@ -354,6 +354,20 @@ public final class LookEdgesTest {
         check.due("high ones of three", Check.of("mark a 97;see a b;mark b 98;also a c;mark c 99;").finds(0, 1), 3);
         check.due("low ones of three", Check.of("mark a 1;see a b;mark b 2;also a c;mark c 3;").finds(0, 1), 3);
         check.due("none", Check.of("asked a 1;").finds(0, 9), 0);
+        BackPages sixteen = Check.of(heads(16, "mark", " 1;") + heads(16, "mark", " 99;"));
+        for (int h = 0; h < 16; h++) {
+            check.due("pages of " + h, sixteen.finds(h, 0), 2);
+        }
+        sixteen.takeOut(1, 98);
+        for (int h = 0; h < 16; h++) {
+            check.due("one page of " + h, sixteen.finds(h, 0), 1);
+        }
+        check.due("all have just page 1", sixteen.trouble(6, 0), 65535);
+        sixteen.drop(15);
+        check.due("the last has none", sixteen.finds(15, 0), 0);
+        check.due("all others have", sixteen.trouble(6, 0), 32767);
+        sixteen.takeOut(1, 1);
+        check.due("none has", sixteen.finds(7, 9), 0);
         check.due("all", Check.of("mark a 1-99;").finds(0, 0), 99);
         check.due("all of two", Check.of("mark a 1-64;see a b;mark b 64-99;").finds(0, 1), 99);
         check.due("one of them", Check.of("mark a 1-64;see a b;mark b 64-99;").finds(1, 1), 36);

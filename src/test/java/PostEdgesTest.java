@@ -8,6 +8,7 @@ public final class PostEdgesTest {
         postedWithAllMarks();
         postedWithoutSee();
         postedBreaksLines();
+        postedSubs();
         saves();
         withinLines();
         fewestLines();
@@ -91,6 +92,32 @@ public final class PostEdgesTest {
         check.due("both", x.posted(6), 4);
         x.width(21);
         check.due("both in 21", x.posted(6), 3);
+    }
+
+    private static void postedSubs() {
+        check.sentence("as though it had all MARKS (OWN, of SUBS)", "the other's subs, not its own");
+        // "  abcdefghijkl, 10, 12" has 22 bytes; b's own sub, without marks, is short
+        BackPages x = Check.of("mark a/abcdefghijkl10;mark a/abcdefghijkl12;mark b/s5;see b a;");
+        x.drop(2);
+        x.width(20);
+        check.due("a's lines", x.head(0, 6), 3);
+        check.due("b posted", x.posted(2), 6);
+        x.width(22);
+        check.due("b posted in 22", x.posted(2), 4);
+        BackPages shorter = Check.of("mark a/s10;mark a/s12;mark b/abcdefghijkl5;see b a;");
+        shorter.drop(2);
+        shorter.width(20);
+        check.due("b's own sub is long", shorter.posted(2), 4);
+        // a's subs are six, the last of them has two lines; those of the head that is printed last are others
+        BackPages six = Check.of("mark a/f10;mark a/e10;mark a/d10;mark a/c10;mark a/b10;mark a/a10;mark z/s1;see b a;asked b 1;");
+        for (int page = 12; page <= 18; page += 2) {
+            six.add(0, 5, page, page, false);
+        }
+        six.width(20);
+        check.due("a's lines", six.head(0, 6), 8);
+        check.due("b posted", six.posted(4), 11 + 7);
+        posting(six, 17, 0, 0, 11);
+        posting(six, 18, 4, 1, 18);
     }
 
     // ---- the best posting
@@ -376,6 +403,10 @@ public final class PostEdgesTest {
         fit(x, 17, 1500, "0111111111111111");
         fit(x, 31, 100, "0000000000000001");
         fit(x, 32, 0, "0000000000000000");
+        BackPages plain = Check.of(heads(16, "mark", " 1;"));
+        for (int n = 0; n <= 17; n++) {
+            fit(plain, n, 20 * Math.max(0, 16 - n), "0".repeat(Math.min(n, 16)) + "2".repeat(Math.max(0, 16 - n)));
+        }
         // what an earlier and larger book came to is not in the way
         String[] texts = {"mark a 1;mark b/s 1;mark c 1;", "mark a/s 1;mark b 1;", "mark a 1;mark b/s 1;mark c/s 1;mark d 1;", "mark a/s 1;"};
         int[] lines = {4, 3, 6, 2};

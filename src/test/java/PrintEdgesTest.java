@@ -95,6 +95,8 @@ public final class PrintEdgesTest {
         check.sentence("of like ones the lesser number. (HEADS so among themselves, SUBS of a HEAD likewise.)");
         check.due("three alike", order(heads("abc", "a_bc", "ab_c")), "abc a_bc ab_c");
         check.due("turned", order(heads("ab_c", "a_bc", "abc")), "ab_c a_bc abc");
+        check.due("twelve bytes and eleven", order(heads("abcdefghij_k", "abcdefghijk")), "abcdefghij_k abcdefghijk");
+        check.due("eleven bytes and twelve", order(heads("abcdefghijk", "abcdefghij_k")), "abcdefghijk abcdefghij_k");
         BackPages x = Check.of("mark a/x_y 1;mark a/xy 2;mark a/x_yz 3;mark a/x 4;");
         check.due("subs", Check.printed(x), "a\n  x, 4\n  x_y, 1\n  xy, 2\n  x_yz, 3\n");
         BackPages y = Check.of("mark a/xy 1;mark a/x_y 2;");

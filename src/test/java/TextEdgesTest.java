@@ -541,6 +541,9 @@ public final class TextEdgesTest {
         faulty("see a b;see a c;", 6, 12);
         faulty("see a b;see a b;", 6, 12);
         faulty("see a b;see  a a;", 6, 13);
+        faulty("see abc d;see abc e;", 6, 14);
+        faulty("see d abc;see d abc;", 6, 14);
+        faulty("asked abc 5;asked abc 5;", 6, 18);
         faulty("asked a 5;asked a 5;", 6, 16);
         faulty("asked a 0;asked a 7;", 6, 16);
         faulty("asked a 5;asked b 5;asked a 6;", 6, 26);
@@ -564,6 +567,8 @@ public final class TextEdgesTest {
         check.sentence("an 'also' that was told already (at the latter HEAD)");
         faulty("also a b;also a b;", 6, 16);
         faulty("also a b;also a c;also a  b;", 6, 26);
+        faulty("also abc d;also abc d;", 6, 20);
+        faulty("also d abc;also d abc;", 6, 18);
         BackPages x = fine("also a b;also b a;also a c;see a b;", 3);
         check.due("a's", x.head(0, 3), 6);
         check.due("b's", x.head(1, 3), 1);
